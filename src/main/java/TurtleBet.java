@@ -873,18 +873,16 @@ public final class TurtleBet {
 
         void goDay() {
             for (int i = 0; i < turtles; i++) {
-                if (!herd[i].dead) {
-                    go(herd[i], draw() % 10);
+                Turtle one = herd[i];
+                if (!one.dead) {
+                    int x = draw() % 10;
+                    int far = cold >= ICE ? 0 : stepOf(one, x);
+                    one.path += one.turned ? -far : far;
+                    one.age++;
+                    one.dead = one.age >= life;
                 }
             }
             day++;
-        }
-
-        private void go(Turtle one, int x) {
-            int far = cold >= ICE ? 0 : stepOf(one, x);
-            one.path += one.turned ? -far : far;
-            one.age++;
-            one.dead = one.age >= life;
         }
 
         /** Who leads, or -1 without turtles. */
@@ -969,7 +967,6 @@ public final class TurtleBet {
 
         void clear() {
             size = 0;
-            key = 0;
             words = 0;
         }
 
@@ -979,6 +976,11 @@ public final class TurtleBet {
                 codes[size] = code;
                 size++;
             }
+        }
+
+        void addWord(int code) {
+            add(code);
+            words++;
         }
     }
 
@@ -1004,10 +1006,7 @@ public final class TurtleBet {
             names[1] = second;
             names[2] = third;
             names[3] = fourth;
-            return worked(rowOf(text));
-        }
-
-        private int worked(Text law) {
+            Text law = rowOf(text);
             int top = 0;
             for (int i = 0; i < law.size; i++) {
                 int code = law.codes[i];
@@ -1052,7 +1051,7 @@ public final class TurtleBet {
         private int start;
         private int end;
         private int sort = END;
-        /** A word right behind another one, without a blank. */
+        /** It stands right behind a word, without a blank; a word must not. */
         private boolean glued;
 
         Reader(int[] tape, int size, Text into) {
@@ -1077,7 +1076,7 @@ public final class TurtleBet {
                 start++;
             }
             sort = start < size ? sortOf(tape[start]) : END;
-            glued = behindWord && start == before && (sort == NUMBER || sort == WORD);
+            glued = behindWord && start == before;
             end = sort == END ? start : start + 1;
             while (sort != MARK && end < size && sortOf(tape[end]) == sort) {
                 end++;
@@ -1152,11 +1151,14 @@ public final class TurtleBet {
         }
 
         private boolean readPiece(int open, int nots) {
-            if (sort == NUMBER) {
-                return readNumber();
-            }
-            if (sort == WORD) {
-                return readName();
+            if (sort == NUMBER || sort == WORD) {
+                int code = sort == NUMBER ? numberHere() : nameHere();
+                if (glued || code < 0) {
+                    return false;
+                }
+                into.addWord(code);
+                advance();
+                return true;
             }
             if (isMark('!') && nots < DEEPEST) {
                 advance();
@@ -1181,20 +1183,22 @@ public final class TurtleBet {
             return sort == MARK && tape[start] == sign;
         }
 
-        private boolean readNumber() {
-            if (glued || end - start > DIGITS) {
-                return false;
+        /** Its code, or -1 if it is too long. */
+        private int numberHere() {
+            if (end - start > DIGITS) {
+                return -1;
             }
             int value = 0;
             for (int i = start; i < end; i++) {
                 value = value * 10 + tape[i] - '0';
             }
-            return addWord(value);
+            return value;
         }
 
-        private boolean readName() {
+        /** Its code, or -1 if the key has no such name. */
+        private int nameHere() {
             int name = end - start == 1 ? namesOf(into.key).indexOf((char) tape[start]) : -1;
-            return name >= 0 && addWord(Text.NAME + name);
+            return name < 0 ? -1 : Text.NAME + name;
         }
 
         private static String namesOf(int key) {
@@ -1203,13 +1207,6 @@ public final class TurtleBet {
                 case PAY: return "wst";
                 default: return "lp";
             }
-        }
-
-        private boolean addWord(int code) {
-            into.add(code);
-            into.words++;
-            advance();
-            return true;
         }
     }
 

@@ -134,7 +134,8 @@ public final class ImagesTest {
         int path = b.told(0, 2);
         Due.due("keep", b.keep(), 2);
         for (int again = 0; again < 2; again++) {
-            b.turtle(1, 1);
+            b.turtle(0, 9);
+            b.set(2, 4, 1);
             b.turns(0, 1);
             b.set(0, 1, 20);
             b.set(1, 4, 0);
@@ -149,6 +150,7 @@ public final class ImagesTest {
             b.tell(4);
             b.feed(0, 0, 0);
             b.days(5);
+            b.set(2, 5, 1);
             Due.due("back", b.back(), 2);
             for (int what = 0; what < 9; what++) {
                 Due.due("back: count " + what, b.count(what), counts[what]);
@@ -193,6 +195,11 @@ public final class ImagesTest {
         Due.due("a fault", Due.text(b, "fine 4 4"), -107);
         Due.due("its number", Due.text(b, "fine 6"), 2);
         Due.due("6", b.fine(0), 6);
+        Due.due("its key", b.textTold(2, 0), 2);
+        Due.due("its words", b.textTold(2, 1), 1);
+        b.back();
+        Due.due("another key", Due.text(b, "pace x"), 2);
+        Due.due("its key", b.textTold(2, 0), 0);
         b.back();
         Due.due("5", b.fine(0), 5);
     }

@@ -37,10 +37,12 @@ public final class SheetsTest {
         Due.due("n 24", b.sheet(3, 1, 24), 24);
         Due.due("place 23", b.mark(3, 23, 5), 1);
         Due.due("place 24", b.mark(3, 24, 5), INDEX);
+        b.mark(3, 0, 4);
         Due.due("refused", b.sheet(3, 0, -1), SIZE);
         Due.due("as it was", seen(b, 3, 23), 5);
         Due.due("again", b.sheet(3, 0, 24), 24);
         Due.due("all 0", seen(b, 3, 23), 0);
+        Due.due("all 0", seen(b, 3, 0), 0);
         Due.due("shorts now", b.mark(3, 0, NONE), KIND);
         Due.due("n 0", b.sheet(3, 0, 0), 0);
         Due.due("no place", b.mark(3, 0, 1), INDEX);
@@ -97,6 +99,7 @@ public final class SheetsTest {
         Due.due("again", b.pour(0), 0);
         b.sheet(1, 0, 24);
         b.mark(1, 3, 9);
+        b.mark(1, 4, 9);
         Due.due("more places than turtles", b.pour(1), 3);
         Due.due("pace", b.told(3, 1), 9);
         Due.due("sheet 4", b.pour(4), BAD);

@@ -118,6 +118,13 @@ public final class TextsTest {
         fault("pace  ", 6);
         fault("  pac 1", 2);
         fault("pacep", 0);
+        fault("xace 1", 0);
+        fault("xay 1", 0);
+        fault("xine 1", 0);
+        fault("pacez", 0);
+        fault("pacea", 0);
+        fault("pace0", 4);
+        fault("pace9", 4);
         fault("paces 1", 0);
         fault("Pace 1", 0);
         fault("5 pace", 0);

@@ -129,6 +129,7 @@ public final class WhatWillBeTest {
         b.turtle(2, 8);
         b.turtle(5, 0);
         Due.due("quick leads at 0", b.colder(1, 10), 0);
+        Due.due("behind 1 day", b.colder(0, 1), 20);
         Due.due("another one from 20 on", b.colder(0, 10), 20);
         Due.due("never", b.colder(2, 10), NONE);
         b.set(2, 2, 1);
@@ -192,6 +193,12 @@ public final class WhatWillBeTest {
         Due.due("1 from 4", b.paced(1, 0, 1), 1);
         b.mark(1, 2, 7);
         Due.due("3: 0 and 1", b.paced(1, 0, 0), 3);
+        b.mark(1, 1, 1);
+        b.mark(1, 2, 2);
+        Due.due("pace 1", b.paced(1, 0, 0), 1);
+        b.mark(1, 1, 20);
+        b.mark(1, 2, 40);
+        Due.due("pace 20", b.paced(1, 0, 0), 20);
         b.mark(1, 1, 4);
         b.mark(1, 2, 6);
         Due.due("3: 1, 0; 4: 0, 2", b.paced(1, 0, 0), 3);
