@@ -28,6 +28,8 @@ public final class EdgesOfTextsTest {
         truths();
         longestTexts();
         counted();
+        countedBehindFaults();
+        namesAtTheirBounds();
         Due.end();
     }
 
@@ -510,5 +512,44 @@ public final class EdgesOfTextsTest {
         Due.text(b, "pace a");
         Due.due("key pay", b.textTold(7, 0), 1);
         Due.due("key pace", b.textTold(8, 0), 0);
+    }
+
+    /** A refused TEXT leaves nothing in the one that comes next: its KEY and its words are its own. */
+    private static void countedBehindFaults() {
+        String[] faults = {"fine l+1+", "pay w*s*", "pace p+a+c+", "fine (1", "pay"};
+        String[] texts = {"pace p", "fine l", "pay w"};
+        int[] keys = {0, 2, 1};
+        for (String wrong : faults) {
+            TurtleBet b = new TurtleBet();
+            b.turtle(0, 13);
+            b.wager(0, 0, 50);
+            for (int i = 0; i < 3; i++) {
+                Due.isTrue("a fault", Due.text(b, wrong) <= -100);
+                Due.due("its number", Due.text(b, texts[i]), i);
+                Due.due("its key", b.textTold(i, 0), keys[i]);
+                Due.due("its words", b.textTold(i, 1), 1);
+            }
+            Due.due("step", b.step(0, 0), 13);
+            Due.due("fine", b.fine(0), 0);
+            Due.due("pays", b.pays(0, 0), 50);
+        }
+    }
+
+    /** "of pace p PACE, a AGE, c COLD, x": each from its least to its greatest. */
+    private static void namesAtTheirBounds() {
+        String[] texts = {"pace p", "pace a/101", "pace a", "pace c", "pace x", "pace 99-c", "pace x*11"};
+        int[] least = {0, 0, 0, 0, 0, 99, 0};
+        int[] most = {20, 99, 99, 99, 9, 0, 99};
+        for (int i = 0; i < texts.length; i++) {
+            TurtleBet b = new TurtleBet();
+            b.turtle(0, 0);
+            b.rule(1, 0);
+            Due.text(b, texts[i]);
+            Due.due(texts[i] + ", all the least", b.step(0, 0), least[i]);
+            b.set(0, 1, 20);
+            b.set(0, 3, 9999);
+            b.rule(1, 99);
+            Due.due(texts[i] + ", all the greatest", b.step(0, 9), most[i]);
+        }
     }
 }

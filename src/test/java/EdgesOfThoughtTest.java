@@ -9,6 +9,7 @@ public final class EdgesOfThoughtTest {
         beyondTheLastDay();
         toLapsBounds();
         toLapsDays();
+        toLapsOrMore();
         toLapsOfSeveral();
         toLapsTurned();
         meetDays();
@@ -142,6 +143,21 @@ public final class EdgesOfThoughtTest {
         Due.due("dead on its first lap", b.toLaps(1), 0);
         b.rule(2, 99);
         Due.due("dead a yard ahead of it", b.toLaps(1), NONE);
+    }
+
+    /** "n LAPS or more": one that has more of them now, and one that comes past n in a single DAY. */
+    private static void toLapsOrMore() {
+        int[] paths = {99, 100, 199, 200, 9999};
+        int[] due = {NONE, 0, 0, 0, 0};
+        for (int i = 0; i < paths.length; i++) {
+            Due.due("path " + paths[i] + " to 1 lap", with(0, paths[i]).toLaps(1), due[i]);
+        }
+        Due.due("more laps are first, too", with(0, 100, 0, 300).toLaps(1), 1);
+        TurtleBet b = with(20, 5);
+        b.rule(0, 10);
+        Due.due("past 1 lap in a day", b.toLaps(1), 0);
+        b.set(0, 2, -15);
+        Due.due("past 0 laps in a day", b.toLaps(0), 0);
     }
 
     /** "the TURTLE that has n LAPS or more first .. of several the one with the greatest PATH, of these the least". */
