@@ -355,6 +355,11 @@ public final class EdgesOfRowsTest {
             Due.due("the last fine", b.why(2), 12);
             Due.due("fine", b.fine(0), 62);
         }
+        Due.text(b, "pace !!!(1+2*3-4)");
+        b.back();
+        Due.due("a shorter one in its stead", Due.text(b, "pace 6"), 13);
+        Due.due("it gives its own", b.step(0, 0), 6);
+        Due.due("it has its own words", b.textTold(13, 1), 1);
     }
 
     /** "How many: .. 1 those DEAD .. 7 PATHS of all, together .. BAD." */

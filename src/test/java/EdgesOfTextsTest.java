@@ -533,6 +533,15 @@ public final class EdgesOfTextsTest {
             Due.due("fine", b.fine(0), 0);
             Due.due("pays", b.pays(0, 0), 50);
         }
+        for (String wrong : new String[] {"fine !1+", "fine 1+!1+", "fine 1+1+1+", "fine !!!!1<2<", "fine (2*3)/4 9"}) {
+            for (String shorter : new String[] {"5", "(5)", "3+2", "2*3-1"}) {
+                TurtleBet b = new TurtleBet();
+                b.turtle(0, 0);
+                Due.isTrue("a fault", Due.text(b, wrong) <= -100);
+                Due.text(b, "fine " + shorter);
+                Due.due("<" + shorter + "> behind <" + wrong + ">", b.fine(0), 5);
+            }
+        }
     }
 
     /** "of pace p PACE, a AGE, c COLD, x": each from its least to its greatest. */
