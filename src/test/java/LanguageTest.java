@@ -15,12 +15,19 @@ public final class LanguageTest {
     private static final String FACE = "turtle2 told2 step2 as2 turns2 set3 push2 egg2 rule2 deal1 seed1 days1 leads0"
             + " wager3 wagerTold2 inherit2 pool0 pays2 behind3 toLaps1 meet2 colder2 stick2 paced3 fine1 feed3 trim1"
             + " text0 textTold2 why1 sheet3 mark3 pour1 reads1 copy5 lay3 ask2 item2 rest2 tell1 check1 keep0 back0 count1";
+    private static final List<Class<?>> CONSTANT_TYPES = List.of(int.class, long.class, boolean.class, char.class, String.class,
+            int[].class, long[].class, char[].class, byte[].class);
+    /** What the class uses of the library that rule 4 lists; more of the list may come to it. */
+    private static final List<String> LIBRARY = List.of("Math.max", "Math.min", "Math.abs", "Math.floorDiv", "Math.floorMod",
+            "System.arraycopy", "length", "charAt", "indexOf");
     private static final String CONSTANTS = "BAD NO FULL NONE NOTHING KIND INDEX SIZE";
 
     public static void main(String[] args) throws Exception {
         face();
         classes();
-        source(Files.readString(Path.of("src/main/java/TurtleBet.java")));
+        String text = Files.readString(Path.of("src/main/java/TurtleBet.java"));
+        source(text);
+        library(text);
         Due.end();
     }
 
@@ -31,6 +38,7 @@ public final class LanguageTest {
             if (!Modifier.isPrivate(m.getModifiers())) {
                 methods.add(m.getName() + m.getParameterCount());
                 Due.isTrue(m + " answers an int", m.getReturnType() == int.class);
+                Due.isTrue(m + " takes ints", Arrays.stream(m.getParameterTypes()).allMatch(t -> t == int.class));
             }
         }
         Due.isTrue("the methods: " + methods, methods.equals(new TreeSet<>(Arrays.asList(FACE.split(" ")))));
@@ -41,7 +49,8 @@ public final class LanguageTest {
             }
         }
         Due.isTrue("the constants: " + fields, fields.equals(new TreeSet<>(Arrays.asList(CONSTANTS.split(" ")))));
-        Due.due("constructors", TurtleBet.class.getDeclaredConstructors().length, 1);
+        Due.due("constructors", TurtleBet.class.getConstructors().length, 1);
+        Due.due("other constructors", TurtleBet.class.getDeclaredConstructors().length, 1);
     }
 
     private static void classes() {
@@ -55,18 +64,45 @@ public final class LanguageTest {
                 boolean isStatic = Modifier.isStatic(f.getModifiers());
                 fields += isStatic ? 0 : 1;
                 Due.isTrue(f + " is final", !isStatic || Modifier.isFinal(f.getModifiers()));
+                Due.isTrue(f + " is a constant", !isStatic || CONSTANT_TYPES.contains(f.getType()));
             }
             Due.isTrue(one + " has twenty fields at most", fields <= 20);
             for (Method m : one.getDeclaredMethods()) {
                 Due.isTrue(m + " takes seven at most", m.getParameterCount() <= 7);
-                boolean named = (" " + FACE).contains(" " + m.getName() + m.getParameterCount());
+                boolean named = (" " + FACE).matches(".* " + m.getName() + "\\d .*|.* " + m.getName() + "\\d");
                 Due.isTrue(m + " bears a public name", !named || one == TurtleBet.class && Modifier.isPublic(m.getModifiers()));
             }
         }
     }
 
+    private static String code(String text) {
+        return text.replaceAll("(?s)/\\*.*?\\*/", "").replaceAll("//[^\n]*", "").replaceAll("\"[^\"\n]*\"", "\"\"");
+    }
+
+    /** Every call with a dot and every new is one of an own class, or stands in the library's list. */
+    private static void library(String text) {
+        TreeSet<String> own = new TreeSet<>();
+        TreeSet<String> made = new TreeSet<>(List.of("int"));
+        for (Class<?> one : TurtleBet.class.getDeclaredClasses()) {
+            made.add(one.getSimpleName());
+            for (Method m : one.getDeclaredMethods()) {
+                own.add(m.getName());
+            }
+        }
+        Matcher call = Pattern.compile("(\\w*)\\.(\\w+)\\(").matcher(code(text));
+        while (call.find()) {
+            boolean ofClass = call.group(1).matches("[A-Z].*");
+            String name = ofClass ? call.group(1) + "." + call.group(2) : call.group(2);
+            Due.isTrue("not in the list: " + name, own.contains(name) || LIBRARY.contains(name));
+        }
+        Matcher making = Pattern.compile("\\bnew (\\w+)").matcher(code(text));
+        while (making.find()) {
+            Due.isTrue("not to be made: " + making.group(1), made.contains(making.group(1)));
+        }
+    }
+
     private static void source(String text) {
-        String code = text.replaceAll("(?s)/\\*.*?\\*/", "").replaceAll("//[^\n]*", "").replaceAll("\"[^\"\n]*\"", "\"\"");
+        String code = code(text);
         Matcher banned = Pattern.compile("\\b(throw|throws|try|catch|finally|synchronized|assert|package|import|volatile|native"
                 + "|equals|hashCode|toString|double|float|Exact|Random|Thread)\\b|->|::").matcher(code);
         while (banned.find()) {
