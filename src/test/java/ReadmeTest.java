@@ -5,14 +5,11 @@ import java.net.URL;
 import java.net.URLClassLoader;
 import java.nio.file.Files;
 import java.nio.file.Path;
-import java.util.Arrays;
 import java.util.Comparator;
-import java.util.List;
 import java.util.regex.Matcher;
 import java.util.regex.Pattern;
 import java.util.stream.Collectors;
 import java.util.stream.Stream;
-import javax.tools.ToolProvider;
 
 /** README.md tells the truth: its lines answer what stands behind them, and it names every call. */
 public final class ReadmeTest {
@@ -68,8 +65,8 @@ public final class ReadmeTest {
         try {
             Path file = dir.resolve("Lines.java");
             Files.writeString(file, source);
-            List<String> args = Arrays.asList("-cp", System.getProperty("java.class.path"), "-d", dir.toString(), file.toString());
-            int failed = ToolProvider.getSystemJavaCompiler().run(null, null, null, args.toArray(new String[0]));
+            String path = System.getProperty("java.class.path");
+            int failed = new ProcessBuilder("javac", "-cp", path, "-d", dir.toString(), file.toString()).inheritIO().start().waitFor();
             Due.due("README compiles", failed, 0);
             if (failed == 0) {
                 try (URLClassLoader loader = new URLClassLoader(new URL[] {dir.toUri().toURL()})) {
